@@ -8,6 +8,7 @@ public final class CutsTest {
         wrongNumbersWithoutCuts();
         forgettingRenumbers();
         forgettingMakesRoom();
+        forgettingFromTheGreatestNumber();
         countsTheCuts();
         valuesAscendSigned();
         belowCountsStoredRowsAlone();
@@ -78,6 +79,21 @@ public final class CutsTest {
         x.forgetCut(0);
         x.select(1, 2);
         Due.same("the same cuts again", Columns.cuts(x), "cuts 1 2");
+    }
+
+    private static void forgettingFromTheGreatestNumber() {
+        for (int k : new int[] {0, 7, 15}) {
+            CrackedColumn x = new CrackedColumn(4, 4, 16);
+            for (int v = 0; v < 16; v++) {
+                x.select(v, v + 1);
+            }
+            Due.is("forgetCut(" + k + ") of sixteen", x.forgetCut(k), CrackedColumn.OK);
+            Due.is("cutCount()", x.cutCount(), 15);
+            for (int i = 0; i < 15; i++) {
+                Due.is("cutValue(" + i + ")", x.cutValue(i), i < k ? i : i + 1);
+            }
+            wrongNumber(x, 15);
+        }
     }
 
     private static void countsTheCuts() {
