@@ -2,12 +2,20 @@
 public final class ConstructorTest {
     private static final int MIN = Columns.MIN;
     private static final int MAX = Columns.MAX;
+    private static final int[] ANY = {MIN, MIN + 1, -1, 0, 1, 2, 3, 4, 5, 15, 16, 17, 31, 32, 33, MAX - 1, MAX};
 
     public static void main(String[] args) {
-        rowLimitIsClamped();
-        pendingLimitIsClamped();
-        cutLimitIsClamped();
-        limitsDoNotMix();
+        rowLimitBelowTheLeast();
+        rowLimitAboveTheGreatest();
+        rowLimitBetween();
+        pendingLimitBelowTheLeast();
+        pendingLimitAboveTheGreatest();
+        pendingLimitBetween();
+        cutLimitBelowTheLeast();
+        cutLimitAboveTheGreatest();
+        cutLimitBetween();
+        acceptsAnyThreeInts();
+        limitsStayFixed();
         startsEmpty();
         constantsHaveTheirValues();
         Due.end();
@@ -28,7 +36,6 @@ public final class ConstructorTest {
             x.select(rows, rows + 1);
             rows++;
         }
-        Due.is("insert into a full column", x.insert(0), CrackedColumn.FULL);
         return rows;
     }
 
@@ -47,51 +54,140 @@ public final class ConstructorTest {
         return x.cutCount();
     }
 
-    private static void rowLimitIsClamped() {
-        int[][] pairs = {{MIN, 4}, {-1, 4}, {0, 4}, {3, 4}, {4, 4}, {5, 5}, {17, 17}, {31, 31}, {32, 32}, {33, 32}, {MAX, 32}};
-        for (int[] pair : pairs) {
-            String what = "of rowLimit " + pair[0];
-            Due.is("ids " + what, ids(new CrackedColumn(pair[0], 5, 5)), pair[1]);
-            Due.is("rows " + what, rows(new CrackedColumn(pair[0], 1, 1)), pair[1]);
+    private static void rowLimitIs(int given, int want) {
+        Due.is("ids of rowLimit " + given, ids(new CrackedColumn(given, 5, 5)), want);
+        CrackedColumn x = new CrackedColumn(given, 1, 1);
+        Due.is("rows of rowLimit " + given, rows(x), want);
+        Due.is("one row more", x.insert(0), CrackedColumn.FULL);
+    }
+
+    private static void rowLimitBelowTheLeast() {
+        Due.says("1: below the least it becomes the least; rowLimit: 4");
+        for (int given : new int[] {3, 2, 1, 0, -1, -4, MIN + 1, MIN}) {
+            rowLimitIs(given, 4);
         }
     }
 
-    private static void pendingLimitIsClamped() {
-        int[][] pairs = {{MIN, 1}, {-1, 1}, {0, 1}, {1, 1}, {2, 2}, {9, 9}, {15, 15}, {16, 16}, {17, 16}, {MAX, 16}};
-        for (int[] pair : pairs) {
-            CrackedColumn x = new CrackedColumn(32, pair[0], 5);
-            Due.is("inserts with pendingLimit " + pair[0], pending(x), pair[1]);
-            Due.is("one more insert", x.insert(1), CrackedColumn.PENDING_FULL);
+    private static void rowLimitAboveTheGreatest() {
+        Due.says("1: above the greatest it becomes the greatest; rowLimit: 32");
+        for (int given : new int[] {33, 34, 64, 1000, MAX - 1, MAX}) {
+            rowLimitIs(given, 32);
         }
     }
 
-    private static void cutLimitIsClamped() {
-        int[][] pairs = {{MIN, 1}, {-1, 1}, {0, 1}, {1, 1}, {2, 2}, {9, 9}, {15, 15}, {16, 16}, {17, 16}, {MAX, 16}};
-        for (int[] pair : pairs) {
-            Due.is("cuts with cutLimit " + pair[0], cuts(new CrackedColumn(32, 5, pair[0])), pair[1]);
+    private static void rowLimitBetween() {
+        Due.says("1: rowLimit: 4 to 32, the number of ids");
+        for (int given = 4; given <= 32; given++) {
+            rowLimitIs(given, given);
         }
     }
 
-    private static void limitsDoNotMix() {
+    private static void pendingLimitIs(int given, int want) {
+        CrackedColumn x = new CrackedColumn(32, given, 5);
+        Due.is("pending rows of pendingLimit " + given, pending(x), want);
+        Due.is("one insert more", x.insert(0), CrackedColumn.PENDING_FULL);
+    }
+
+    private static void pendingLimitBelowTheLeast() {
+        Due.says("1: below the least it becomes the least; pendingLimit: 1");
+        for (int given : new int[] {0, -1, -2, MIN + 1, MIN}) {
+            pendingLimitIs(given, 1);
+        }
+    }
+
+    private static void pendingLimitAboveTheGreatest() {
+        Due.says("1: above the greatest it becomes the greatest; pendingLimit: 16");
+        for (int given : new int[] {17, 18, 32, 1000, MAX - 1, MAX}) {
+            pendingLimitIs(given, 16);
+        }
+    }
+
+    private static void pendingLimitBetween() {
+        Due.says("1: pendingLimit: 1 to 16, the greatest number of pending rows (ADDED plus REMOVED)");
+        for (int given = 1; given <= 16; given++) {
+            pendingLimitIs(given, given);
+        }
+    }
+
+    private static void cutLimitIs(int given, int want) {
+        Due.is("cuts of cutLimit " + given, cuts(new CrackedColumn(32, 5, given)), want);
+    }
+
+    private static void cutLimitBelowTheLeast() {
+        Due.says("1: below the least it becomes the least; cutLimit: 1");
+        for (int given : new int[] {0, -1, -2, MIN + 1, MIN}) {
+            cutLimitIs(given, 1);
+        }
+    }
+
+    private static void cutLimitAboveTheGreatest() {
+        Due.says("1: above the greatest it becomes the greatest; cutLimit: 16");
+        for (int given : new int[] {17, 18, 32, 1000, MAX - 1, MAX}) {
+            cutLimitIs(given, 16);
+        }
+    }
+
+    private static void cutLimitBetween() {
+        Due.says("1: cutLimit: 1 to 16, the greatest number of cuts");
+        for (int given = 1; given <= 16; given++) {
+            cutLimitIs(given, given);
+        }
+    }
+
+    private static int clamped(int given, int least, int most) {
+        return Math.max(least, Math.min(most, given));
+    }
+
+    private static void acceptsAnyThreeInts() {
+        Due.says("1: accepts any three ints; each argument is clamped on its own");
+        for (int a : ANY) {
+            for (int b : ANY) {
+                for (int c : ANY) {
+                    CrackedColumn x = new CrackedColumn(a, b, c);
+                    String of = " of (" + a + ", " + b + ", " + c + ")";
+                    int rows = clamped(a, 4, 32);
+                    Due.is("ids" + of, ids(x), rows);
+                    Due.is("pending rows" + of, pending(x), Math.min(rows, clamped(b, 1, 16)));
+                    Due.is("cuts" + of, cuts(x), clamped(c, 1, 16));
+                }
+            }
+        }
+    }
+
+    private static void limitsStayFixed() {
+        Due.says("1: these three stay fixed from then on");
         CrackedColumn x = new CrackedColumn(7, 3, 2);
-        Due.is("ids", ids(x), 7);
-        Due.is("pending", pending(x), 3);
-        Due.is("cuts", cuts(x), 2);
+        for (int round = 0; round < 5; round++) {
+            Due.is("ids", ids(x), 7);
+            Due.is("pending rows", pending(x), 3);
+            Due.is("cuts", cuts(x), 2);
+            Due.is("rows from the fourth on", rows(x), 4);
+            for (int id = 0; id < 7; id++) {
+                x.delete(id);
+                x.select(MIN, MAX);
+            }
+            Columns.forgetAllCuts(x);
+            Due.same("all gone", Columns.rows(x), "");
+        }
     }
 
     private static void startsEmpty() {
-        CrackedColumn x = new CrackedColumn(4, 3, 2);
-        for (int id = 0; id < 4; id++) {
-            Due.is("rowState(" + id + ")", x.rowState(id), CrackedColumn.FREE);
-            Due.is("rowValue(" + id + ")", x.rowValue(id), 0);
+        Due.says("1: at first every id is FREE, there are no cuts, the result is the empty set and its sum is 0");
+        for (int rowLimit = 4; rowLimit <= 32; rowLimit++) {
+            CrackedColumn x = new CrackedColumn(rowLimit, 3, 2);
+            for (int id = 0; id < rowLimit; id++) {
+                Due.is("rowState(" + id + ")", x.rowState(id), CrackedColumn.FREE);
+            }
+            Due.same("rows", Columns.rows(x), "");
+            Due.same("the rest", Columns.rest(x), "cuts | below | result sum 0");
+            Due.is("cutCount()", x.cutCount(), 0);
+            Due.is("storedCount()", x.storedCount(), 0);
+            Due.is("pendingCount()", x.pendingCount(), 0);
         }
-        Due.is("cutCount()", x.cutCount(), 0);
-        Due.is("storedCount()", x.storedCount(), 0);
-        Due.is("pendingCount()", x.pendingCount(), 0);
-        Due.same("start", Columns.result(x), "result sum 0");
     }
 
     private static void constantsHaveTheirValues() {
+        Due.says("What it is: public constants, all of type int");
         Due.is("FREE", CrackedColumn.FREE, 0);
         Due.is("ADDED", CrackedColumn.ADDED, 1);
         Due.is("SETTLED", CrackedColumn.SETTLED, 2);

@@ -135,7 +135,8 @@ final class Model {
 
     int pieceOf(int id) {
         Row row = rows.get(id);
-        return row == null || row.state == CrackedColumn.ADDED ? CrackedColumn.NONE : cuts.headSet(row.value, true).size();
+        boolean stored = row != null && row.state != CrackedColumn.ADDED;
+        return stored ? cuts.headSet(row.value, true).size() : CrackedColumn.NONE;
     }
 
     int rowState(int id) {
