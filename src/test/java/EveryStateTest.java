@@ -5,7 +5,7 @@ import java.util.List;
 import java.util.Queue;
 import java.util.Set;
 
-/** All promises: every state that a small column can come to, and every call in each, compared with a model. */
+/** All promises: every state that a small column comes to by a few values and bounds, compared with a model. */
 public final class EveryStateTest {
     private static final int ROWS = 4;
     private static final int PENDING = 2;
@@ -13,7 +13,7 @@ public final class EveryStateTest {
     private static final List<Pair.Call> CALLS = calls();
 
     public static void main(String[] args) {
-        Due.says("every call in every state of a column of the limits 4, 2, 2 with the values 0 and 1");
+        Due.says("every state of a column of the limits 4, 2, 2 with the values 0 and 1 and the bounds 0 to 2");
         Set<String> known = new HashSet<>();
         Queue<List<Pair.Call>> toTry = new ArrayDeque<>();
         toTry.add(List.of());
